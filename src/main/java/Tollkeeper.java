@@ -50,8 +50,8 @@ public final class Tollkeeper {
     private final Reading[] readings = new Reading[MOST_READINGS];
     private final Warrant[] warrants = new Warrant[MOST_WARRANTS];
     private final Answer[] answers = new Answer[MOST_ASKINGS];
-    private final long[] bills = new long[DRIVERS];
-    private final long[] backs = new long[DRIVERS];
+    private final long[] billedTo = new long[DRIVERS];
+    private final long[] paidBackTo = new long[DRIVERS];
     // One row serves every joining anew, so that asking leaves no objects behind.
     private final Passings anew = new Passings();
     private int minuteNow = 0;
@@ -302,11 +302,11 @@ public final class Tollkeeper {
     public int settle() {
         long back = 0;
         for (int driver = 0; driver < DRIVERS; driver++) {
-            long difference = dueByKept(driver) - (bills[driver] - backs[driver]);
+            long difference = dueByKept(driver) - (billedTo[driver] - paidBackTo[driver]);
             if (difference >= 0) {
-                bills[driver] += difference;
+                billedTo[driver] += difference;
             } else {
-                backs[driver] -= difference;
+                paidBackTo[driver] -= difference;
                 back -= difference;
             }
         }
@@ -315,12 +315,12 @@ public final class Tollkeeper {
 
     public long billed(int driver) throws IndexOutOfBoundsException {
         requireDriver(driver);
-        return bills[driver];
+        return billedTo[driver];
     }
 
     public long paidBack(int driver) throws IndexOutOfBoundsException {
         requireDriver(driver);
-        return backs[driver];
+        return paidBackTo[driver];
     }
 
     // ---- warrants
@@ -565,7 +565,7 @@ public final class Tollkeeper {
             return distances[gate][other];
         }
 
-        boolean join(Reading ahead, Reading behind) {
+        boolean isOneTrip(Reading ahead, Reading behind) {
             int way = between(ahead.gate, behind.gate);
             int minutes = behind.minute - ahead.minute;
             return way != NONE && minutes <= 2 * way + pause && 4 * minutes >= way;
@@ -670,7 +670,8 @@ public final class Tollkeeper {
             return true;
         }
 
-        // Signs may be compared for their chars: a plate's signs rise as their chars do.
+        // Signs may be compared for their chars: in a plate's text the numbers of signs rise with
+        // those of their chars, and no sign's chars are the beginning of another sign's.
         boolean comesBefore(Text other) {
             int common = Math.min(count, other.count);
             for (int back = 1; back <= common; back++) {
@@ -831,8 +832,8 @@ public final class Tollkeeper {
 
         void put(Reading reading, Roads roads) {
             int place = insertInOrder(reading);
-            join(place, roads);
-            join(place + 1, roads);
+            seeBeginning(place, roads);
+            seeBeginning(place + 1, roads);
         }
 
         void take(Reading reading, Roads roads) {
@@ -845,7 +846,7 @@ public final class Tollkeeper {
                 row[i] = row[i + 1];
                 begins[i] = begins[i + 1];
             }
-            join(place, roads);
+            seeBeginning(place, roads);
         }
 
         int insertInOrder(Reading reading) {
@@ -862,7 +863,7 @@ public final class Tollkeeper {
 
         void joinAll(Roads roads) {
             for (int place = 0; place < count; place++) {
-                join(place, roads);
+                seeBeginning(place, roads);
             }
         }
 
@@ -895,9 +896,9 @@ public final class Tollkeeper {
             return way;
         }
 
-        private void join(int place, Roads roads) {
+        private void seeBeginning(int place, Roads roads) {
             if (place < count) {
-                begins[place] = place == 0 || !roads.join(row[place - 1], row[place]);
+                begins[place] = place == 0 || !roads.isOneTrip(row[place - 1], row[place]);
             }
         }
 

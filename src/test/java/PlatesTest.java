@@ -22,6 +22,7 @@ public final class PlatesTest {
         x.pass(5);
         Check.due("the first plate", Made.plate(x, 5, 3, 0), 0);
         Check.due("the second plate", Made.plate(x, 0, 0, 0, 0, 0, 0, 0, 0), 1);
+        Check.due("the longest text", x.charAt(5), 'A');
         Check.due("plates", x.plates(), 2);
         Check.due("the holder", x.holder(0, 5), 5);
         Check.due("the holder of the second", x.holder(1, 5), 0);
@@ -48,6 +49,11 @@ public final class PlatesTest {
         }
         Made.spell(x, 0);
         Check.due("a beginning of another text", x.register(0, 0), 2);
+        Made.spell(x, 2, 3, 4, 5, 6, 7);
+        Check.due("a text of six signs", x.register(0, 0), 3);
+        Check.noState(x, "the same six signs", () -> x.register(0, 0));
+        Made.spell(x, 0);
+        Check.noState(x, "a plate's text behind a longer one", () -> x.register(0, 0));
     }
 
     private static void registerRefusesAnEleventh() {

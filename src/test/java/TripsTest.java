@@ -9,6 +9,8 @@ public final class TripsTest {
         tripsGoByRisingMinutes();
         sameMinuteGoesByNumbers();
         readingComesBetween();
+        tripsFarBehindStay();
+        sixtyPassingsOfOnePlate();
         readingGoes();
         tripsFollowRoadsAndPause();
         tripsFollowSignsThatAreAlike();
@@ -118,7 +120,50 @@ public final class TripsTest {
         Check.due("anew", x.tripsAnew(0), 3);
         x.read(0, 50);
         Check.due("one more ahead of all", x.trips(0), 4);
-        Check.due("trip of what was first", x.tripOf(0), 1);
+        int[] want = {1, 3, 1, 2, 0};
+        for (int reading = 0; reading < want.length; reading++) {
+            Check.due("trip of " + reading, x.tripOf(reading), want[reading]);
+        }
+    }
+
+    private static void tripsFarBehindStay() {
+        Tollkeeper x = Made.oneRoadAndPlate();
+        for (int minute : new int[] {300, 310, 800, 810, 900, 910, 920}) {
+            x.read(0, minute);
+        }
+        x.read(1, 100);
+        x.read(1, 850);
+        int[] want = {1, 1, 2, 2, 2, 2, 2, 0, 2};
+        for (int reading = 0; reading < want.length; reading++) {
+            Check.due("trip of " + reading, x.tripOf(reading), want[reading]);
+        }
+        x.correct(7, Tollkeeper.NONE);
+        x.correct(8, Tollkeeper.NONE);
+        int[] then = {0, 0, 1, 1, 2, 2, 2, Tollkeeper.NONE, Tollkeeper.NONE};
+        for (int reading = 0; reading < then.length; reading++) {
+            Check.due("trip of " + reading + " then", x.tripOf(reading), then[reading]);
+        }
+    }
+
+    private static void sixtyPassingsOfOnePlate() {
+        Tollkeeper x = Made.oneRoadAndPlate();
+        for (int i = 59; i >= 0; i--) {
+            x.read(0, 31 * i);
+        }
+        Check.due("sixty trips", x.trips(0), 60);
+        Check.due("anew", x.tripsAnew(0), 60);
+        Check.due("trip of the first reading", x.tripOf(0), 59);
+        Check.due("toll of the last trip", x.toll(0, 59), 4);
+        Check.noIndex(x, "toll of a sixty-first trip", () -> x.toll(0, 60));
+        Check.noIndex(x, "driver of a sixty-first trip", () -> x.driverOf(0, 60));
+        x.warrant(0, 0, 34);
+        Check.due("the last passing", x.ask(0, 59), 31 * 59);
+        Check.noElement(x, "one behind it", () -> x.ask(0, 60));
+        x.setPause(31);
+        Check.due("one trip", x.trips(0), 1);
+        x.correct(30, Tollkeeper.NONE);
+        Check.due("two trips", x.trips(0), 2);
+        Check.due("stale answers", x.stale(0), 1);
     }
 
     private static void readingGoes() {
