@@ -10,18 +10,18 @@ public final class BillsTest {
         Check.end();
     }
 
-    private static void checkDue(Tollkeeper x, int driver, int want) {
+    private static void checkDue(Keeper x, int driver, int want) {
         Check.due("due(" + driver + ")", x.due(driver), want);
         Check.due("dueAnew(" + driver + ")", x.dueAnew(driver), want);
     }
 
-    private static void checkBills(Tollkeeper x, int driver, long billed, long paidBack) {
+    private static void checkBills(Keeper x, int driver, long billed, long paidBack) {
         Check.due("billed(" + driver + ")", x.billed(driver), billed);
         Check.due("paidBack(" + driver + ")", x.paidBack(driver), paidBack);
     }
 
     private static void dueAddsUpTrips() {
-        Tollkeeper x = Made.oneRoadAndPlate();
+        Keeper x = Made.oneRoadAndPlate();
         Made.plate(x, 0, 3, Made.B);
         Made.spell(x, Made.A);
         x.read(0, 100);
@@ -38,7 +38,7 @@ public final class BillsTest {
     }
 
     private static void dueGoesByDrivers() {
-        Tollkeeper x = Made.oneRoadAndPlate();
+        Keeper x = Made.oneRoadAndPlate();
         x.sell(0, 5);
         x.pass(100);
         x.read(0, 1990);
@@ -52,7 +52,7 @@ public final class BillsTest {
     }
 
     private static void settleBills() {
-        Tollkeeper x = Made.oneRoadAndPlate();
+        Keeper x = Made.oneRoadAndPlate();
         Check.due("settle of nothing", x.settle(), 0);
         x.read(0, 100);
         checkBills(x, 0, 0, 0);
@@ -67,7 +67,7 @@ public final class BillsTest {
     }
 
     private static void settlePaysBack() {
-        Tollkeeper x = Made.oneRoadAndPlate();
+        Keeper x = Made.oneRoadAndPlate();
         x.read(0, 100);
         x.read(1, 120);
         x.settle();
@@ -86,7 +86,7 @@ public final class BillsTest {
     }
 
     private static void settleOfSeveralDrivers() {
-        Tollkeeper x = new Tollkeeper();
+        Keeper x = new Keeper();
         for (int driver = 0; driver < 6; driver++) {
             Made.plate(x, driver, 0, driver);
             x.read(0, 0);
@@ -115,7 +115,7 @@ public final class BillsTest {
     }
 
     private static void billsRefuse() {
-        Tollkeeper x = Made.oneRoadAndPlate();
+        Keeper x = Made.oneRoadAndPlate();
         x.read(0, 100);
         x.settle();
         for (int driver : new int[] {-1, 6, Integer.MIN_VALUE, Integer.MAX_VALUE}) {

@@ -1,3 +1,5 @@
+import java.util.NoSuchElementException;
+
 /** Counts answers that are not due; end() tells them to whoever ran the test. */
 final class Check {
     private static int checks = 0;
@@ -19,26 +21,26 @@ final class Check {
     }
 
     /** The call must throw just this exception, from a throw of the program's own, and change nothing. */
-    static void refused(Tollkeeper x, Class<? extends RuntimeException> kind, String what, Call call) {
-        String before = State.of(x);
+    static void refused(Keeper x, Class<? extends RuntimeException> kind, String what, Call call) {
+        String before = Probe.of(x);
         due(what, outcome(call), kind.getName());
-        due("the state after " + what, State.of(x), before);
+        due("what was changed by " + what, Probe.firstChange(before, Probe.of(x)), Probe.NO_CHANGE);
     }
 
-    static void noIndex(Tollkeeper x, String what, Call call) {
+    static void noIndex(Keeper x, String what, Call call) {
         refused(x, IndexOutOfBoundsException.class, what, call);
     }
 
-    static void noArgument(Tollkeeper x, String what, Call call) {
+    static void noArgument(Keeper x, String what, Call call) {
         refused(x, IllegalArgumentException.class, what, call);
     }
 
-    static void noState(Tollkeeper x, String what, Call call) {
+    static void noState(Keeper x, String what, Call call) {
         refused(x, IllegalStateException.class, what, call);
     }
 
-    static void noElement(Tollkeeper x, String what, Call call) {
-        refused(x, java.util.NoSuchElementException.class, what, call);
+    static void noElement(Keeper x, String what, Call call) {
+        refused(x, NoSuchElementException.class, what, call);
     }
 
     /** What a call answered, or the name of the class of what it threw. */
@@ -48,6 +50,14 @@ final class Check {
         } catch (RuntimeException thrown) {
             return thrown.getClass().getName();
         }
+    }
+
+    static int checks() {
+        return checks;
+    }
+
+    static int wrong() {
+        return wrong;
     }
 
     static void end() {

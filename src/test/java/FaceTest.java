@@ -95,7 +95,7 @@ public final class FaceTest {
     }
 
     private static void newObjectIsEmpty() {
-        Tollkeeper x = new Tollkeeper();
+        Keeper x = new Keeper();
         Check.due("now", x.now(), 0);
         for (int gate = 0; gate < 8; gate++) {
             for (int other = 0; other < 8; other++) {
@@ -116,15 +116,16 @@ public final class FaceTest {
     }
 
     private static void objectsShareNothing() {
-        Tollkeeper used = Made.oneRoadAndPlate();
+        String atFirst = Probe.of(new Keeper());
+        Keeper used = Made.oneRoadAndPlate();
         used.setPause(7);
         used.setRate(0, 9);
         used.alike(0, 1);
         used.read(0, 0);
         used.warrant(0, 0, 0);
         used.settle();
-        Tollkeeper x = new Tollkeeper();
-        Check.due("a new object beside a used one", State.of(x), State.of(new Tollkeeper()));
+        Keeper x = new Keeper();
+        Check.due("what a new object has of a used one", Probe.firstChange(atFirst, Probe.of(x)), Probe.NO_CHANGE);
         Check.due("its pause", x.setPause(7), 30);
         Check.due("its rate", x.setRate(0, 9), 1);
         Check.due("its signs", x.alike(0, 1), true);

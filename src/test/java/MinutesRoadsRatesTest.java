@@ -15,7 +15,7 @@ public final class MinutesRoadsRatesTest {
     }
 
     private static void passAddsMinutes() {
-        Tollkeeper x = new Tollkeeper();
+        Keeper x = new Keeper();
         Check.due("pass(1)", x.pass(1), 1);
         Check.due("pass(2000)", x.pass(2000), 2001);
         Check.due("now", x.now(), 2001);
@@ -25,7 +25,7 @@ public final class MinutesRoadsRatesTest {
     }
 
     private static void passEndsAtTheLastMinute() {
-        Tollkeeper x = new Tollkeeper();
+        Keeper x = new Keeper();
         for (int i = 0; i < 24; i++) {
             x.pass(2000);
         }
@@ -39,7 +39,7 @@ public final class MinutesRoadsRatesTest {
     }
 
     private static void roadTellsItsLengthBefore() {
-        Tollkeeper x = new Tollkeeper();
+        Keeper x = new Keeper();
         Check.due("road(0, 7, 200)", x.road(0, 7, 200), 0);
         Check.due("road(7, 0, 1)", x.road(7, 0, 1), 200);
         Check.due("road(0, 7, 0)", x.road(0, 7, 0), 1);
@@ -48,7 +48,7 @@ public final class MinutesRoadsRatesTest {
     }
 
     private static void roadRefuses() {
-        Tollkeeper x = new Tollkeeper();
+        Keeper x = new Keeper();
         x.road(0, 1, 5);
         for (int gate : OUT_OF_GATES) {
             Check.noIndex(x, "road of gate " + gate, () -> x.road(gate, 0, 5));
@@ -66,7 +66,7 @@ public final class MinutesRoadsRatesTest {
     }
 
     private static void distanceIsTheLeastSum() {
-        Tollkeeper x = new Tollkeeper();
+        Keeper x = new Keeper();
         x.road(0, 1, 200);
         x.road(0, 2, 10);
         x.road(2, 3, 10);
@@ -84,7 +84,7 @@ public final class MinutesRoadsRatesTest {
     }
 
     private static void distanceFollowsRoads() {
-        Tollkeeper x = new Tollkeeper();
+        Keeper x = new Keeper();
         int[] way = {3, 7, 0, 5, 1, 6, 2, 4};
         for (int i = 0; i < 7; i++) {
             x.road(way[i], way[i + 1], 200);
@@ -101,7 +101,7 @@ public final class MinutesRoadsRatesTest {
     }
 
     private static void pauseIsSet() {
-        Tollkeeper x = new Tollkeeper();
+        Keeper x = new Keeper();
         Check.due("setPause(500)", x.setPause(500), 30);
         Check.due("setPause(0)", x.setPause(0), 500);
         for (int minutes : new int[] {-1, 501, Integer.MIN_VALUE, Integer.MAX_VALUE}) {
@@ -111,7 +111,7 @@ public final class MinutesRoadsRatesTest {
     }
 
     private static void ratesAreSet() {
-        Tollkeeper x = new Tollkeeper();
+        Keeper x = new Keeper();
         Check.due("rate 0", x.setRate(0, 50), 1);
         Check.due("rate 1", x.setRate(1, 0), 2);
         Check.due("rate 2", x.setRate(2, 7), 4);

@@ -18,7 +18,7 @@ public final class PlatesTest {
     }
 
     private static void registerNumbersPlates() {
-        Tollkeeper x = new Tollkeeper();
+        Keeper x = new Keeper();
         x.pass(5);
         Check.due("the first plate", Made.plate(x, 5, 3, 0), 0);
         Check.due("the second plate", Made.plate(x, 0, 0, 0, 0, 0, 0, 0, 0), 1);
@@ -31,7 +31,7 @@ public final class PlatesTest {
     }
 
     private static void registerRefusesTexts() {
-        Tollkeeper x = new Tollkeeper();
+        Keeper x = new Keeper();
         Check.noState(x, "a plate without a text", () -> x.register(0, 0));
         Made.plate(x, 0, 0, 0, 1);
         Check.noState(x, "a text that a plate has", () -> x.register(1, 1));
@@ -57,7 +57,7 @@ public final class PlatesTest {
     }
 
     private static void registerRefusesAnEleventh() {
-        Tollkeeper x = new Tollkeeper();
+        Keeper x = new Keeper();
         for (int sign = 0; sign < 10; sign++) {
             Check.due("plate", Made.plate(x, 0, 0, sign), sign);
         }
@@ -69,7 +69,7 @@ public final class PlatesTest {
     }
 
     private static void registerTakesReadings() {
-        Tollkeeper x = new Tollkeeper();
+        Keeper x = new Keeper();
         x.alike(0, 1);
         Made.plate(x, 0, 0, 0);
         int reading = Made.reading(x, 0, 0, 1);
@@ -84,7 +84,7 @@ public final class PlatesTest {
     }
 
     private static void plateAtFollowsTextsTurnedRound() {
-        Tollkeeper x = new Tollkeeper();
+        Keeper x = new Keeper();
         // Turned round: BA, CA, A, car A, A car, B, last car A.
         Made.plate(x, 0, 0, 0, 1);
         Made.plate(x, 0, 0, 0, 2);
@@ -101,7 +101,7 @@ public final class PlatesTest {
     }
 
     private static void plateAtRefuses() {
-        Tollkeeper x = new Tollkeeper();
+        Keeper x = new Keeper();
         Check.noElement(x, "plateAt(0) of none", () -> x.plateAt(0));
         Made.plate(x, 0, 0, 1);
         Made.plate(x, 0, 0, 0);
@@ -112,7 +112,7 @@ public final class PlatesTest {
     }
 
     private static void sellGivesAnotherHolder() {
-        Tollkeeper x = new Tollkeeper();
+        Keeper x = new Keeper();
         Made.plate(x, 0, 0, 0);
         x.pass(10);
         Check.due("sell to 1", x.sell(0, 1), 0);
@@ -129,7 +129,7 @@ public final class PlatesTest {
     }
 
     private static void sellInOneMinute() {
-        Tollkeeper x = new Tollkeeper();
+        Keeper x = new Keeper();
         x.pass(7);
         Made.plate(x, 0, 0, 0);
         Check.due("sell in the minute of registration", x.sell(0, 1), 0);
@@ -148,7 +148,7 @@ public final class PlatesTest {
     }
 
     private static void sellMovesDues() {
-        Tollkeeper x = new Tollkeeper();
+        Keeper x = new Keeper();
         Made.plate(x, 0, 0, 0);
         x.pass(10);
         x.read(0, 10);
@@ -160,7 +160,7 @@ public final class PlatesTest {
     }
 
     private static void sellRefuses() {
-        Tollkeeper x = new Tollkeeper();
+        Keeper x = new Keeper();
         Check.noIndex(x, "sell of no plate", () -> x.sell(0, 0));
         Made.plate(x, 0, 0, 0);
         for (int plate : new int[] {-1, 1, Integer.MIN_VALUE, Integer.MAX_VALUE}) {
@@ -172,7 +172,7 @@ public final class PlatesTest {
     }
 
     private static void holderRefuses() {
-        Tollkeeper x = new Tollkeeper();
+        Keeper x = new Keeper();
         x.pass(3);
         Made.plate(x, 2, 0, 0);
         for (int minute : new int[] {-1, 4, Integer.MIN_VALUE, Integer.MAX_VALUE}) {

@@ -19,7 +19,7 @@ public final class ReadingsTest {
     }
 
     private static void readNumbersReadings() {
-        Tollkeeper x = new Tollkeeper();
+        Keeper x = new Keeper();
         x.pass(20);
         Check.due("a reading of now", Made.reading(x, 7, 20, 14), 0);
         Check.due("a late reading", x.read(0, 0), 1);
@@ -29,7 +29,7 @@ public final class ReadingsTest {
     }
 
     private static void readRefuses() {
-        Tollkeeper x = new Tollkeeper();
+        Keeper x = new Keeper();
         x.pass(20);
         Check.noState(x, "read of nothing", () -> x.read(0, 0));
         for (int gate : new int[] {-1, 8, Integer.MIN_VALUE, Integer.MAX_VALUE}) {
@@ -44,7 +44,7 @@ public final class ReadingsTest {
     }
 
     private static void readRefusesASixtyFirst() {
-        Tollkeeper x = new Tollkeeper();
+        Keeper x = new Keeper();
         Made.plate(x, 0, 0, 0);
         for (int i = 0; i < 60; i++) {
             Check.due("read", x.read(0, 0), i);
@@ -62,7 +62,7 @@ public final class ReadingsTest {
     }
 
     private static void costsAddUp() {
-        Tollkeeper x = new Tollkeeper();
+        Keeper x = new Keeper();
         x.alike(0, 1);
         x.alike(10, 13);
         Made.plate(x, 0, 0, 0, 1, 10, 2, 2, 9);
@@ -79,7 +79,7 @@ public final class ReadingsTest {
     }
 
     private static void costIsNone() {
-        Tollkeeper x = new Tollkeeper();
+        Keeper x = new Keeper();
         Made.plate(x, 0, 0, 0, 1);
         Made.plate(x, 0, 0, 10);
         Made.reading(x, 0, 0, 0, 2);
@@ -95,7 +95,7 @@ public final class ReadingsTest {
     }
 
     private static void costRefuses() {
-        Tollkeeper x = new Tollkeeper();
+        Keeper x = new Keeper();
         Made.plate(x, 0, 0, 0);
         Check.noIndex(x, "cost of no reading", () -> x.cost(0, 0));
         x.read(0, 0);
@@ -107,7 +107,7 @@ public final class ReadingsTest {
     }
 
     private static void plateOfLeastCost() {
-        Tollkeeper x = new Tollkeeper();
+        Keeper x = new Keeper();
         Made.plate(x, 0, 0, 0, 0);
         Made.plate(x, 0, 0, 2, 0);
         Made.reading(x, 0, 0, 1, 14);
@@ -120,7 +120,7 @@ public final class ReadingsTest {
     }
 
     private static void plateOfFirstInOrder() {
-        Tollkeeper x = new Tollkeeper();
+        Keeper x = new Keeper();
         Made.plate(x, 0, 0, 0, 13);
         Made.plate(x, 0, 0, 9, 12);
         Made.reading(x, 0, 0, 14, 14);
@@ -134,7 +134,7 @@ public final class ReadingsTest {
     }
 
     private static void correctGoesBeyondTexts() {
-        Tollkeeper x = new Tollkeeper();
+        Keeper x = new Keeper();
         Made.plate(x, 0, 0, 0);
         Made.plate(x, 1, 0, 1, 1);
         Made.reading(x, 0, 0, 0);
@@ -158,7 +158,7 @@ public final class ReadingsTest {
     }
 
     private static void correctRefuses() {
-        Tollkeeper x = new Tollkeeper();
+        Keeper x = new Keeper();
         Check.noIndex(x, "correct of no reading", () -> x.correct(0, Tollkeeper.NONE));
         Made.plate(x, 0, 0, 0);
         x.read(0, 0);
@@ -172,7 +172,7 @@ public final class ReadingsTest {
     }
 
     private static void uncorrectTakesItBack() {
-        Tollkeeper x = new Tollkeeper();
+        Keeper x = new Keeper();
         Made.plate(x, 0, 0, 0);
         Made.plate(x, 1, 0, 1);
         Made.reading(x, 0, 0, 0);
@@ -195,7 +195,7 @@ public final class ReadingsTest {
     }
 
     private static void uncorrectRefuses() {
-        Tollkeeper x = new Tollkeeper();
+        Keeper x = new Keeper();
         Made.plate(x, 0, 0, 0);
         x.read(0, 0);
         Check.noState(x, "uncorrect of what is not corrected", () -> x.uncorrect(0));

@@ -17,7 +17,7 @@ public final class TextsTest {
     }
 
     private static void spellCountsChars() {
-        Tollkeeper x = new Tollkeeper();
+        Keeper x = new Keeper();
         Check.due("spell(0)", x.spell(0), 1);
         Check.due("spell(10)", x.spell(10), 3);
         Check.due("spell(14)", x.spell(14), 4);
@@ -31,7 +31,7 @@ public final class TextsTest {
 
     private static void everySignHasItsChars() {
         for (int sign = 0; sign < 15; sign++) {
-            Tollkeeper x = new Tollkeeper();
+            Keeper x = new Keeper();
             int point = sign < 10 ? 'A' + sign : sign < 14 ? 0x1F690 + sign - 10 : '?';
             String want = new StringBuilder().appendCodePoint(point).toString();
             Check.due("spell(" + sign + ")", x.spell(sign), want.length());
@@ -40,7 +40,7 @@ public final class TextsTest {
     }
 
     private static void insertGoesAheadOfASign() {
-        Tollkeeper x = new Tollkeeper();
+        Keeper x = new Keeper();
         Check.noArgument(x, "insert into nothing", () -> x.insert(0, 0));
         x.spell(0);
         Check.due("insert(11, 0)", x.insert(11, 0), 3);
@@ -59,7 +59,7 @@ public final class TextsTest {
     }
 
     private static void fullTextTakesNoSign() {
-        Tollkeeper x = new Tollkeeper();
+        Keeper x = new Keeper();
         Made.spell(x, 10, 11, 12, 13, 10);
         Check.due("the sixth sign", x.spell(11), 12);
         Check.noState(x, "a seventh sign", () -> x.spell(0));
@@ -73,7 +73,7 @@ public final class TextsTest {
     }
 
     private static void mirrorTurnsSignsRound() {
-        Tollkeeper x = new Tollkeeper();
+        Keeper x = new Keeper();
         Check.due("mirror of nothing", x.mirror(), 0);
         Made.spell(x, 0, 10, 14);
         Check.due("mirror of three", x.mirror(), 3);
@@ -89,7 +89,7 @@ public final class TextsTest {
     }
 
     private static void clearSpelledEmpties() {
-        Tollkeeper x = new Tollkeeper();
+        Keeper x = new Keeper();
         Check.due("clearSpelled of nothing", x.clearSpelled(), 0);
         Made.spell(x, 10, 11);
         Check.due("clearSpelled of two", x.clearSpelled(), 2);
@@ -99,7 +99,7 @@ public final class TextsTest {
     }
 
     private static void textStaysWhenItIsUsed() {
-        Tollkeeper x = new Tollkeeper();
+        Keeper x = new Keeper();
         Made.spell(x, 0, 10);
         x.register(0, 0);
         checkText(x, "A\uD83D\uDE90");
@@ -113,7 +113,7 @@ public final class TextsTest {
     }
 
     private static void charAtRefuses() {
-        Tollkeeper x = new Tollkeeper();
+        Keeper x = new Keeper();
         Check.noElement(x, "charAt(0) of nothing", () -> x.charAt(0));
         Made.spell(x, 0, 10);
         Check.due("charAt(2)", x.charAt(2), '\uDE90');
@@ -123,7 +123,7 @@ public final class TextsTest {
     }
 
     private static void alikeIsToldAndTakenBack() {
-        Tollkeeper x = new Tollkeeper();
+        Keeper x = new Keeper();
         Made.plate(x, 0, 0, Made.A);
         Made.reading(x, 0, 0, Made.LAST_CAR);
         Check.due("alike(0, 13)", x.alike(0, 13), true);
@@ -141,7 +141,7 @@ public final class TextsTest {
     }
 
     private static void alikeRefuses() {
-        Tollkeeper x = new Tollkeeper();
+        Keeper x = new Keeper();
         for (int sign : NO_SIGNS) {
             Check.noIndex(x, "alike(" + sign + ", 0)", () -> x.alike(sign, 0));
             Check.noIndex(x, "alike(0, " + sign + ")", () -> x.alike(0, sign));
@@ -154,7 +154,7 @@ public final class TextsTest {
         Check.noArgument(x, "alike(0, 14)", () -> x.alike(0, 14));
     }
 
-    private static void checkText(Tollkeeper x, String want) {
+    private static void checkText(Keeper x, String want) {
         StringBuilder text = new StringBuilder();
         for (int place = 0; place < want.length(); place++) {
             text.append(Check.outcome(placed(x, place)));
@@ -164,7 +164,7 @@ public final class TextsTest {
             java.util.NoSuchElementException.class.getName());
     }
 
-    private static Check.Call placed(Tollkeeper x, int place) {
+    private static Check.Call placed(Keeper x, int place) {
         return () -> x.charAt(place);
     }
 }

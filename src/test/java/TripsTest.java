@@ -23,7 +23,7 @@ public final class TripsTest {
 
     /** The trips of the plate A that passes 0 in the minute 100 and another gate some minutes later. */
     private static int tripsOf(int length, int minutes, int pause) {
-        Tollkeeper x = Made.oneRoadAndPlate();
+        Keeper x = Made.oneRoadAndPlate();
         x.setPause(pause);
         x.road(0, 1, length);
         x.read(0, 100);
@@ -39,7 +39,7 @@ public final class TripsTest {
         Check.due("20 km in 41 minutes, no pause", tripsOf(20, 41, 0), 2);
         Check.due("20 km in 540 minutes, the longest pause", tripsOf(20, 540, 500), 1);
         Check.due("20 km in 541 minutes, the longest pause", tripsOf(20, 541, 500), 2);
-        Tollkeeper x = Made.oneRoadAndPlate();
+        Keeper x = Made.oneRoadAndPlate();
         x.read(0, 100);
         x.read(0, 130);
         Check.due("30 minutes at one gate", x.trips(0), 1);
@@ -53,7 +53,7 @@ public final class TripsTest {
         Check.due("19 km in 5 minutes", tripsOf(19, 5, 30), 1);
         Check.due("20 km in 4 minutes", tripsOf(20, 4, 30), 2);
         Check.due("1 km in 0 minutes", tripsOf(1, 0, 30), 2);
-        Tollkeeper x = Made.oneRoadAndPlate();
+        Keeper x = Made.oneRoadAndPlate();
         x.read(0, 100);
         x.read(0, 100);
         Check.due("one gate in one minute", x.trips(0), 1);
@@ -61,7 +61,7 @@ public final class TripsTest {
     }
 
     private static void tripsPartWithoutAWay() {
-        Tollkeeper x = Made.oneRoadAndPlate();
+        Keeper x = Made.oneRoadAndPlate();
         x.read(0, 100);
         x.read(5, 110);
         x.read(5, 120);
@@ -70,7 +70,7 @@ public final class TripsTest {
     }
 
     private static void tripsGoByRisingMinutes() {
-        Tollkeeper x = Made.oneRoadAndPlate();
+        Keeper x = Made.oneRoadAndPlate();
         x.read(2, 500);
         x.read(0, 100);
         x.read(1, 130);
@@ -85,7 +85,7 @@ public final class TripsTest {
     }
 
     private static void sameMinuteGoesByNumbers() {
-        Tollkeeper x = Made.oneRoadAndPlate();
+        Keeper x = Made.oneRoadAndPlate();
         x.read(0, 100);
         x.read(2, 200);
         x.read(0, 200);
@@ -95,7 +95,7 @@ public final class TripsTest {
         for (int place = 0; place < want.length; place++) {
             Check.due("passing " + place, x.ask(0, place), want[place]);
         }
-        Tollkeeper y = Made.oneRoadAndPlate();
+        Keeper y = Made.oneRoadAndPlate();
         y.read(0, 100);
         y.read(2, 100);
         y.correct(0, Tollkeeper.NONE);
@@ -106,7 +106,7 @@ public final class TripsTest {
     }
 
     private static void readingComesBetween() {
-        Tollkeeper x = Made.oneRoadAndPlate();
+        Keeper x = Made.oneRoadAndPlate();
         x.read(0, 100);
         x.read(0, 180);
         Check.due("two trips", x.trips(0), 2);
@@ -127,7 +127,7 @@ public final class TripsTest {
     }
 
     private static void tripsFarBehindStay() {
-        Tollkeeper x = Made.oneRoadAndPlate();
+        Keeper x = Made.oneRoadAndPlate();
         for (int minute : new int[] {300, 310, 800, 810, 900, 910, 920}) {
             x.read(0, minute);
         }
@@ -146,7 +146,7 @@ public final class TripsTest {
     }
 
     private static void sixtyPassingsOfOnePlate() {
-        Tollkeeper x = Made.oneRoadAndPlate();
+        Keeper x = Made.oneRoadAndPlate();
         for (int i = 59; i >= 0; i--) {
             x.read(0, 31 * i);
         }
@@ -167,7 +167,7 @@ public final class TripsTest {
     }
 
     private static void readingGoes() {
-        Tollkeeper x = Made.oneRoadAndPlate();
+        Keeper x = Made.oneRoadAndPlate();
         x.read(0, 100);
         x.read(1, 140);
         x.read(0, 180);
@@ -190,7 +190,7 @@ public final class TripsTest {
     }
 
     private static void tripsFollowRoadsAndPause() {
-        Tollkeeper x = Made.oneRoadAndPlate();
+        Keeper x = Made.oneRoadAndPlate();
         x.read(0, 100);
         x.read(2, 250);
         Check.due("2 * 50 + 30 < 150", x.trips(0), 2);
@@ -208,7 +208,7 @@ public final class TripsTest {
     }
 
     private static void tripsFollowSignsThatAreAlike() {
-        Tollkeeper x = Made.oneRoadAndPlate();
+        Keeper x = Made.oneRoadAndPlate();
         Made.plate(x, 1, 0, Made.B);
         Made.reading(x, 0, 100, Made.A);
         Made.reading(x, 1, 130, Made.C);
@@ -228,7 +228,7 @@ public final class TripsTest {
 
     private static void tollsGoByWayAndClass() {
         for (int its = 0; its < 4; its++) {
-            Tollkeeper x = new Tollkeeper();
+            Keeper x = new Keeper();
             Made.plate(x, 3, its, Made.CAR, Made.A);
             x.pass(1000);
             x.road(0, 1, 10);
@@ -247,7 +247,7 @@ public final class TripsTest {
     }
 
     private static void tollOfTheLongestTrip() {
-        Tollkeeper x = new Tollkeeper();
+        Keeper x = new Keeper();
         Made.plate(x, 0, 3, Made.A);
         for (int i = 0; i < 25; i++) {
             x.pass(2000);
@@ -268,7 +268,7 @@ public final class TripsTest {
     }
 
     private static void driverIsTheHolderAtTheBeginning() {
-        Tollkeeper x = new Tollkeeper();
+        Keeper x = new Keeper();
         x.pass(100);
         Made.plate(x, 2, 0, Made.A);
         x.pass(20);
@@ -290,7 +290,7 @@ public final class TripsTest {
     }
 
     private static void tripsRefuse() {
-        Tollkeeper x = new Tollkeeper();
+        Keeper x = new Keeper();
         Check.noIndex(x, "tripOf of no reading", () -> x.tripOf(0));
         Made.plate(x, 0, 0, Made.A);
         Check.noIndex(x, "toll of no trip", () -> x.toll(0, 0));

@@ -14,7 +14,7 @@ public final class WarrantsTest {
     }
 
     private static void warrantsAreNumbered() {
-        Tollkeeper x = new Tollkeeper();
+        Keeper x = new Keeper();
         Made.plate(x, 0, 0, Made.A);
         for (int i = 0; i < 8; i++) {
             Check.due("warrant", x.warrant(0, i, 34), i);
@@ -25,7 +25,7 @@ public final class WarrantsTest {
     }
 
     private static void warrantRefuses() {
-        Tollkeeper x = new Tollkeeper();
+        Keeper x = new Keeper();
         Check.noIndex(x, "a warrant for no plate", () -> x.warrant(0, 0, 0));
         Made.plate(x, 0, 0, Made.A);
         for (int plate : new int[] {-1, 1, Integer.MIN_VALUE, Integer.MAX_VALUE}) {
@@ -41,8 +41,8 @@ public final class WarrantsTest {
     }
 
     /** The trips 1430-1445 of day 0, 2870 of day 1, 2881-2890 of day 2, 5000 of day 3. */
-    private static Tollkeeper fourDays() {
-        Tollkeeper x = Made.oneRoadAndPlate();
+    private static Keeper fourDays() {
+        Keeper x = Made.oneRoadAndPlate();
         x.pass(2000);
         x.pass(2000);
         x.read(1, 1445);
@@ -54,7 +54,7 @@ public final class WarrantsTest {
         return x;
     }
 
-    private static void checkShown(Tollkeeper x, int from, int to, int... want) {
+    private static void checkShown(Keeper x, int from, int to, int... want) {
         int warrant = x.warrant(0, from, to);
         for (int place = 0; place < want.length; place++) {
             Check.due("place " + place + " of " + from + " to " + to, x.ask(warrant, place), want[place]);
@@ -63,7 +63,7 @@ public final class WarrantsTest {
     }
 
     private static void showsTripsThatBeganOnItsDays() {
-        Tollkeeper x = fourDays();
+        Keeper x = fourDays();
         checkShown(x, 0, 0, 1430, 101445);
         checkShown(x, 1, 1, 202879);
         checkShown(x, 2, 2, 202890);
@@ -78,7 +78,7 @@ public final class WarrantsTest {
     }
 
     private static void showsUpToTheLastDay() {
-        Tollkeeper x = new Tollkeeper();
+        Keeper x = new Keeper();
         Made.plate(x, 0, 0, Made.A);
         for (int i = 0; i < 25; i++) {
             x.pass(2000);
@@ -93,7 +93,7 @@ public final class WarrantsTest {
     }
 
     private static void askRefuses() {
-        Tollkeeper x = fourDays();
+        Keeper x = fourDays();
         Check.noIndex(x, "ask without a warrant", () -> x.ask(0, 0));
         x.warrant(0, 1, 1);
         x.ask(0, 0);
@@ -106,7 +106,7 @@ public final class WarrantsTest {
     }
 
     private static void askEndsAtForty() {
-        Tollkeeper x = fourDays();
+        Keeper x = fourDays();
         x.warrant(0, 0, 34);
         x.warrant(0, 0, 0);
         for (int i = 0; i < 39; i++) {
@@ -125,7 +125,7 @@ public final class WarrantsTest {
     }
 
     private static void staleFollowsWhatIsShown() {
-        Tollkeeper x = fourDays();
+        Keeper x = fourDays();
         x.warrant(0, 0, 0);
         x.ask(0, 0);
         x.ask(0, 1);
@@ -150,7 +150,7 @@ public final class WarrantsTest {
     }
 
     private static void staleCountsEachAnswer() {
-        Tollkeeper x = fourDays();
+        Keeper x = fourDays();
         x.warrant(0, 0, 0);
         x.warrant(0, 0, 0);
         x.ask(0, 0);
@@ -166,7 +166,7 @@ public final class WarrantsTest {
     }
 
     private static void staleRefuses() {
-        Tollkeeper x = fourDays();
+        Keeper x = fourDays();
         Check.noIndex(x, "stale without a warrant", () -> x.stale(0));
         x.warrant(0, 0, 0);
         x.ask(0, 0);
