@@ -1,10 +1,15 @@
 import java.io.IOException;
+import java.lang.reflect.Executable;
+import java.lang.reflect.Field;
+import java.lang.reflect.Modifier;
 import java.nio.charset.StandardCharsets;
 import java.nio.file.Files;
 import java.nio.file.Path;
+import java.util.ArrayList;
 import java.util.List;
 import java.util.regex.Matcher;
 import java.util.regex.Pattern;
+import java.util.stream.Stream;
 
 /** Words that the rules of LANGUAGE.md leave out; run from the project's folder. */
 public final class LanguageTest {
@@ -27,6 +32,7 @@ public final class LanguageTest {
         Check.due("static fields that are not final",
             count("\\bstatic (?!final\\b)[\\w\\[\\]]+ \\w+\\s*[=;]", code), 0);
         methodsStayShort(code);
+        classesStaySmall();
         Check.end();
     }
 
@@ -46,5 +52,38 @@ public final class LanguageTest {
             long lines = matcher.group().lines().count();
             Check.due("a method of up to 40 lines:" + matcher.group().lines().findFirst().orElse(""), lines <= 40, true);
         }
+    }
+
+    private static void classesStaySmall() {
+        List<Class<?>> classes = new ArrayList<>(List.of(Tollkeeper.class.getDeclaredClasses()));
+        for (Class<?> inside : classes) {
+            int flags = inside.getModifiers();
+            Check.due(inside + " is static", Modifier.isStatic(flags), true);
+            Check.due(inside + " is hidden", Modifier.isPublic(flags) || Modifier.isProtected(flags), false);
+            Check.due("classes inside " + inside, inside.getDeclaredClasses().length, 0);
+        }
+        classes.add(Tollkeeper.class);
+        Check.due("up to 12 classes", classes.size() <= 12, true);
+        for (Class<?> its : classes) {
+            fieldsAreFew(its);
+            Stream.of(its.getDeclaredMethods()).forEach(LanguageTest::parametersAreFew);
+            Stream.of(its.getDeclaredConstructors()).forEach(LanguageTest::parametersAreFew);
+        }
+    }
+
+    private static void fieldsAreFew(Class<?> its) {
+        int count = 0;
+        for (Field field : its.getDeclaredFields()) {
+            if (Modifier.isStatic(field.getModifiers())) {
+                Check.due(field + " is final", Modifier.isFinal(field.getModifiers()), true);
+            } else {
+                count++;
+            }
+        }
+        Check.due("up to 20 fields in " + its, count <= 20, true);
+    }
+
+    private static void parametersAreFew(Executable its) {
+        Check.due("up to 7 parameters of " + its, its.getParameterCount() <= 7, true);
     }
 }
